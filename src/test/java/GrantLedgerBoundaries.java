@@ -271,6 +271,7 @@ public final class GrantLedgerBoundaries {
         everyRightIsApartFromEveryOther();
         fallGoesOnToTheLastGrant();
         fallStopsAtOwnersGrants();
+        whatStaysKeepsItsOption();
         goneGrantsNeverStandAgain();
     }
 
@@ -341,6 +342,21 @@ public final class GrantLedgerBoundaries {
         due("owner's: revoke", x.revoke(0, 1, 0), 2);
         due("owner's: without option", x.stands(2), 1);
         due("owner's: with option", x.stands(3), 1);
+    }
+
+    // "each grant that stands stays standing": with its option, or without
+    private static void whatStaysKeepsItsOption() {
+        GrantLedger x = new GrantLedger();
+        x.grant(0, 1, 0, false);
+        x.grant(0, 2, 0, true);
+        x.grant(0, 3, 0, false);
+        x.grant(0, 4, 2, true);
+        due("option: the first goes", x.revoke(0, 1, 0), 1);
+        due("option: with, now the first", x.may(2, 0), 1);
+        due("option: without", x.may(3, 0), 0);
+        due("option: with, the last", x.may(4, 2), 1);
+        due("option: used", x.grant(2, 1, 0, false), 4);
+        due("option: without is refused", x.grant(3, 1, 0, false), -2);
     }
 
     // "Grants that have fallen or have been taken back never stand again."
