@@ -1,3 +1,4 @@
+import com.sun.source.tree.ArrayAccessTree;
 import com.sun.source.tree.ArrayTypeTree;
 import com.sun.source.tree.AssignmentTree;
 import com.sun.source.tree.BlockTree;
@@ -37,8 +38,9 @@ import javax.tools.ToolProvider;
 
 // Reads the program's source and looks for what LANGUAGE.md rules out. In places
 // it is narrower than the rules (arrays only in fields' initialisers, no loop but
-// `for (int i = ..; i < ..; i++)`), since the class needs no more. Rules 7 and 9
-// cannot be seen this way; 11 follows from 3.
+// `for (int i = ..; i < ..; i++)`, array fields never as a whole), since the class
+// needs no more. Rule 7 is GrantLedgerAnyInput's; 9 rules nothing out; 11 follows
+// from 3.
 public final class GrantLedgerLanguage extends TreePathScanner<Void, Void> {
     private static final Path SOURCE = Path.of("src/main/java/GrantLedger.java");
     private static final int RECURSION = 1000;
@@ -156,7 +158,8 @@ public final class GrantLedgerLanguage extends TreePathScanner<Void, Void> {
             fields++;
         }
         if (field && fixed) {
-            require(5, isNumber(type) && variable.getInitializer() != null, variable);
+            String value = String.valueOf(variable.getInitializer());
+            require(5, type.toString().matches("int|long") && value.matches("-?[0-9]+L?"), variable);
         }
         return super.visitVariable(variable, unused);
     }
@@ -201,6 +204,7 @@ public final class GrantLedgerLanguage extends TreePathScanner<Void, Void> {
     public Void visitMemberSelect(MemberSelectTree select, Void unused) {
         boolean own = select.getExpression().toString().equals("this");
         require(3, own || select.getIdentifier().contentEquals("length"), select);
+        require(4, !arrayFields.contains(select.getIdentifier().toString()), select);
         return super.visitMemberSelect(select, unused);
     }
 
@@ -212,6 +216,16 @@ public final class GrantLedgerLanguage extends TreePathScanner<Void, Void> {
             require(4, length.toString().matches("[1-9][0-9]*|[A-Z][A-Z_]*"), array);
         }
         return super.visitNewArray(array, unused);
+    }
+
+    // Where an array stands as a whole it could be compared, answered or named
+    // anew; the class only ever looks at one of its places.
+    @Override
+    public Void visitIdentifier(IdentifierTree name, Void unused) {
+        Tree around = getCurrentPath().getParentPath().getLeaf();
+        boolean onePlace = around instanceof ArrayAccessTree access && access.getExpression() == name;
+        require(4, onePlace || !arrayFields.contains(name.getName().toString()), around);
+        return super.visitIdentifier(name, unused);
     }
 
     @Override
